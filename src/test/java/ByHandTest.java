@@ -9,6 +9,7 @@ final class ByHandTest {
         inTheLake();
         refusedShots();
         news();
+        allNewsAtOnce();
         hurtAtMost();
         hears();
         stacks();
@@ -105,6 +106,19 @@ final class ByHandTest {
         CHECK.due("known still", x.fort(0, 3), 41);
         CHECK.due("shoot on with what is known there", x.shoot(0, 8, 1, 10), 0);
         CHECK.due("said where it was", x.fort(0, 3), 43);
+    }
+
+    private static void allNewsAtOnce() {
+        CannonPost x = Check.post("sb6;f;fx6;c");
+        for (int n = 0; n < 6; n++) {
+            x.hear(0, n);
+        }
+        CHECK.due("64 is no news", x.shoot(0, 2, 0, 64), -1);
+        CHECK.due("nor is 127", x.shoot(0, 2, 0, 127), -1);
+        CHECK.due("nor is -1", x.shoot(0, 2, 0, -1), -1);
+        CHECK.due("nor is -64", x.shoot(0, 2, 0, -64), -1);
+        CHECK.due("all six at once", x.shoot(0, 2, 0, 63), 1);
+        CHECK.due("all six are said", x.fort(1, 3), 63);
     }
 
     private static void hurtAtMost() {

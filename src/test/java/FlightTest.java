@@ -10,6 +10,7 @@ final class FlightTest {
         aims();
         aimsNotRising();
         aimsFollowWeather();
+        aimsInAllWeather();
         gusts();
         gustBeyondNine();
         passes();
@@ -137,6 +138,33 @@ final class FlightTest {
         CHECK.due("another league", x.aim(0, 0, 1), 7);
     }
 
+    /** Aims are kept as long as the weather is: it is changed to and fro, so that an old one would show. */
+    private static void aimsInAllWeather() {
+        CannonPost x = Check.post("sw0;f;fx20;fx31;cm3;cm4");
+        Check.tell(x, Check.LAW, "y:p+w+9-d");
+        long draws = 7;
+        for (int i = 0; i < 300; i++) {
+            draws = draws * 6364136223846793005L + 1442695040888963407L;
+            int draw = (int) (draws >>> 33);
+            switch (draw % 4) {
+                case 0:
+                    x.law(draw / 4 % 2 - 1);
+                    break;
+                case 1:
+                    x.damp(draw / 4 % 10);
+                    break;
+                case 2:
+                    x.wind(x.rule(0), 1 - x.rule(1));
+                    break;
+                default:
+                    x.wind(draw / 4 % 10, x.rule(1));
+                    break;
+            }
+            CHECK.due("aim(0, 0, 1), " + i, x.aim(0, 0, 1), leastByHand(x, 0, 0, 1));
+            CHECK.due("aim(1, 2, 1), " + i, x.aim(1, 2, 1), leastByHand(x, 1, 2, 1));
+        }
+    }
+
     private static void gusts() {
         CannonPost x = Check.post(LEAGUE);
         CHECK.due("lands without alone", x.gusts(0, 0, 2, 0, 40), 60);
@@ -148,6 +176,8 @@ final class FlightTest {
         CHECK.due("where it was shot, both", x.gusts(0, 2, 1, 1, 30), 100);
         CHECK.due("chance 101", x.gusts(0, 0, 1, 0, 101), -1);
         CHECK.due("chance -1", x.gusts(0, 0, 1, 0, -1), -1);
+        CHECK.due("chance -1, another", x.gusts(0, 0, 2, 0, -1), -1);
+        CHECK.due("chance 101, another", x.gusts(0, 0, 2, 0, 101), -1);
         CHECK.due("carrier 2", x.gusts(2, 0, 1, 0, 50), -1);
         CHECK.due("fort 3", x.gusts(0, 3, 1, 0, 50), -1);
         CHECK.due("powder 0", x.gusts(0, 0, 0, 0, 50), -1);

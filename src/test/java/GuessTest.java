@@ -12,6 +12,8 @@ final class GuessTest {
         refusedSights();
         asks();
         asksByLaw();
+        asksAtTheEdges();
+        asksBetweenTwo();
         faces();
         next();
         CHECK.close();
@@ -150,6 +152,34 @@ final class GuessTest {
         CHECK.due("those by way 0, and 1 by way 1", x.winds(-1), 11);
         // by way 1 calm and the one by way 1 come to 20; from 10 powder on no other does
         CHECK.due("they differ by way 1", x.ask(0, 0), 110);
+    }
+
+    private static void asksAtTheEdges() {
+        CannonPost x = Check.post(LEAGUE);
+        Check.tell(x, Check.LAW, "y:60");
+        Check.tell(x, Check.LAW, "y:p=20?30+w;y:59");
+        Check.tell(x, Check.LAW, "y:w>0?9;y:w<0?8;y:p<5?9;y:7");
+        x.law(0);
+        CHECK.due("all come to the furthest", x.ask(0, 0), 1);
+        x.law(1);
+        CHECK.due("all of 20 powder", x.ask(0, 0), 20);
+        x.law(2);
+        // calm and 1 to 9 by way 0 come to 9 with 1 powder
+        x.seen(0, 0, 1, 0, 9);
+        CHECK.due("ten are left", x.winds(-1), 10);
+        // by way 1 calm joins none of the nine; by way 0 from 5 powder on it joins none either
+        CHECK.due("the first that is apart", x.ask(0, 0), 5);
+    }
+
+    private static void asksBetweenTwo() {
+        CannonPost x = Check.post(LEAGUE);
+        Check.tell(x, Check.LAW, "y:p=1&w>7?20;y:p=1?10;y:p<6?30;y:w+20");
+        x.law(0);
+        x.seen(0, 0, 1, 0, 20);
+        CHECK.due("two are left", x.winds(-1), 2);
+        CHECK.due("8", x.winds(0), 8);
+        CHECK.due("9", x.winds(1), 9);
+        CHECK.due("the first that tells them apart", x.ask(0, 0), 6);
     }
 
     private static void faces() {

@@ -89,6 +89,9 @@ final class LawTest {
         CHECK.dueSound(SORT, "y:!!!!!!p=1?1");
         CHECK.dueFault(SORT, "y:!!!!!!!p=1?1", 8);
         CHECK.dueSound(SORT, "y:!(!([[p]]=1))?1");
+        CHECK.dueSound(SORT, "y:p=1?[[[[[[1]]]]]]");
+        CHECK.dueFault(SORT, "y:p=1?[[[[[[[1]]]]]]]", 12);
+        CHECK.dueSound(SORT, "y:!p=1?[[[[[[1]]]]]]");
         CHECK.dueFault(SORT, "y:!(!([[[p]]]=1))?1", 8);
         CHECK.dueFault(SORT, "y:!!!!!(p=[1])?1", 10);
         CHECK.dueFault(SORT, "y:!!!!!!p=[1]?1", 10);
@@ -147,6 +150,11 @@ final class LawTest {
         dueWorth("y:1=2|1=2|1=1?3;y:4", 3);
         dueWorth("y:1=2|1=2&1=1|1=2?3;y:4", 4);
         dueWorth("y:1=1&1=1&1=2?3;y:4", 4);
+        dueWorth("y:1=1|1=2|1=2?3;y:4", 3);
+        dueWorth("y:1=2|1=1&1=1|1=2?3;y:4", 3);
+        dueWorth("y:1=2&1=1&1=1?3;y:4", 4);
+        dueWorth("y:!1=1?3;y:4", 4);
+        dueWorth("y:!1=2|1=2?3;y:4", 3);
         dueWorth("y:1+1=2&3*2>5?3;y:4", 3);
         dueWorth("y:1+1=2+0&2<1+2?3+4*2;y:4", 11);
     }
@@ -180,6 +188,9 @@ final class LawTest {
         dueWorth("y:40+[[0-9999]*9999-9999]/[9999*5]", 20);
         dueWorth("y:9999*9999*9999*9999=100*100*100?5;y:6", 5);
         dueWorth("y:9999*101=9999*100+9999?5;y:6", 5);
+        dueWorth("y:9999*9999-9999*100-60", 40);
+        dueWorth("y:[0-9999]*9999+9999*100+140", 40);
+        dueWorth("y:[9999*100+9999]-9999*100-60", 40);
         dueWorth("y:5000*200=9999*9999?5;y:6", 5);
         dueWorth("y:9999*100<9999*9999?5;y:6", 5);
     }
@@ -193,6 +204,7 @@ final class LawTest {
         for (int i = 0; i < 4; i++) {
             CHECK.due("text(1)", Check.tell(x, SORT, "y:" + (11 + i)), i);
             CHECK.due("count(2)", x.count(2), i + 1);
+            CHECK.due("the tape is empty then", x.count(4), 0);
         }
         CHECK.due("text(1), a fifth", Check.tell(x, SORT, "y:1"), -1);
         CHECK.due("its tape is still there", x.count(4), 3);

@@ -100,6 +100,8 @@ final class LeagueTextTest {
         CHECK.dueFault(SORT, "f;fx1;cf2", 9);
         CHECK.dueFault(SORT, "f;fx1;c;cf7", 11);
         CHECK.dueFault(SORT, "f;f;c;~", 6);
+        CHECK.dueFault(SORT, "f;fx1;cm", 8);
+        CHECK.dueFault(SORT, "f;fx1;cm ", 9);
     }
 
     private static void usualItems() {

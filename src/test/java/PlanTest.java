@@ -34,6 +34,12 @@ final class PlanTest {
         CHECK.dueFault(SORT, "s0", 2);
         CHECK.dueFault(SORT, "sx", 1);
         CHECK.dueFault(SORT, "s01x", 3);
+        CHECK.dueFault(SORT, "s01", 3);
+        CHECK.dueFault(SORT, "s01:", 3);
+        CHECK.dueFault(SORT, "s010:", 4);
+        CHECK.dueFault(SORT, "s010/", 4);
+        CHECK.dueFault(SORT, "n1:", 2);
+        CHECK.dueFault(SORT, "n:", 1);
         CHECK.dueFault(SORT, "s010", 4);
         CHECK.dueFault(SORT, "s010;", 4);
         CHECK.dueFault(SORT, "s01055", 5);
@@ -125,6 +131,7 @@ final class PlanTest {
         dueRun("s0020;h1;s0020", 2, 20);
         dueRun("s0020;s1120", -1, 40);
         dueRun("h9;h9;w00;w10;w00", -1, 0);
+        dueRun("h1;h2;h3;h4;h5;h6;h7;h8;h9;h1;h2;h3;h4;h5;h6;h7", -1, 0);
     }
 
     private static void cantBe() {
@@ -172,6 +179,11 @@ final class PlanTest {
         CHECK.due("the wind ahead", x.rule(0), 1);
         CHECK.due("undo an hour", x.undo(), 4);
         CHECK.due("the hour ahead", x.count(6), 2);
+        x = planned("w01");
+        CHECK.due("perform a wind", x.perform(0), 1);
+        CHECK.due("it tells nothing", x.fort(0, 3), 0);
+        CHECK.due("it shoots nobody", x.rule(2), 40);
+        CHECK.due("no hour goes by", x.count(6), 0);
         x = planned("h0;h1");
         CHECK.due("perform nothing", x.perform(0), 0);
         CHECK.due("no acts", x.count(13), 0);

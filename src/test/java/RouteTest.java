@@ -9,6 +9,7 @@ final class RouteTest {
         ties();
         leastPowderBeatsDigits();
         longRow();
+        tiesOfThree();
         refusedRoutes();
         sures();
         surests();
@@ -68,6 +69,24 @@ final class RouteTest {
         dueRoute(x, 0, 1, 2467531, 33);
         dueRoute(x, 1, 0, 3576420, 33);
         CHECK.due("sure over seven", x.sure(0, 0, 1), 27993600);
+    }
+
+    /** Two rows of three shots, 5 1 7 and 3 2 7; the law tells by the height from where it is. */
+    private static void tiesOfThree() {
+        String forts = "fh1;fx14h4;fx18h5;fx9h3;fx36;fx5h2;fx40;fx25;c";
+        CannonPost x = Check.post(forts);
+        Check.tell(x, Check.LAW, "y:h=1&p=1?5;y:h=1&p=2?9;y:h=2&p=3?9;y:h=3&p=2?9;y:h=4&p=1?11;y:h=5&p=1?7;y:60");
+        x.law(0);
+        dueRoute(x, 0, 7, 327, 5);
+        Check.tell(x, Check.LAW, "y:h=1&p=1?5;y:h=1&p=3?9;y:h=2&p=3?9;y:h=3&p=2?9;y:h=4&p=1?11;y:h=5&p=1?7;y:60");
+        x.law(1);
+        dueRoute(x, 0, 7, 517, 5);
+        Check.tell(x, Check.LAW, "y:h=1&p=2?5;y:h=1&p=1?9;y:h=2&p=3?9;y:h=3&p=2?9;y:h=4&p=1?11;y:h=5&p=1?7;y:60");
+        x.law(2);
+        dueRoute(x, 0, 7, 327, 4);
+        CHECK.due("no way back", x.route(0, 7, 0, 0), -1);
+        CHECK.due("some from 0", x.net(0), 175);
+        CHECK.due("none from the end", x.net(7), 128);
     }
 
     private static void refusedRoutes() {
@@ -141,6 +160,11 @@ final class RouteTest {
         Check.tell(all, Check.LAW, "y:p<7?p");
         all.law(0);
         CHECK.due("all along the ridge", all.net(1), 255);
+        CannonPost down = Check.post("fx0;fx5;fx10;fx15;fx20;fx25;fx30;fx35;c");
+        Check.tell(down, Check.LAW, "y:p<6?p");
+        down.law(0);
+        CHECK.due("down the ridge", down.net(7), 255);
+        CHECK.due("up the ridge", down.net(0), 255);
     }
 
     private static void cuts() {
@@ -165,6 +189,14 @@ final class RouteTest {
         CHECK.due("with the wind", x.cuts(), 0);
         x.wind(0, 0);
         CHECK.due("without it", x.cuts(), 2);
+        CannonPost y = Check.post("sw0;f;fx10h1;fx20h1;cm6");
+        Check.tell(y, Check.LAW, "y:h=0?0;y:p");
+        y.law(0);
+        CHECK.due("none can be come to from 0", y.cuts(), 0);
+        CHECK.due("though others can from 1", y.net(1), 7);
+        Check.tell(y, Check.LAW, "y:h=1?0;y:p");
+        y.law(1);
+        CHECK.due("all from 0 at once", y.cuts(), 0);
     }
 
     private static void dueRelay(CannonPost x, int news, int fort, int shots, int first) {

@@ -59,6 +59,15 @@ final class TapeTest {
         CHECK.due("feed of nothing into a full one", x.feed(0, 0, 0, 0, 0), 240);
         CHECK.due("feed of a byte into a full one", x.feed(0, 0, 1, 0, 0), -1);
         CHECK.due("still 240", x.count(4), 240);
+        for (int i = 0; i < 5; i++) {
+            int[] all = new int[5];
+            all[i] = full;
+            x.end(237);
+            CHECK.due("four bytes into room for three", x.feed(all[0], all[1], all[2], all[3], all[4]), -1);
+            CHECK.due("still 237", x.count(4), 237);
+            x.end(236);
+            CHECK.due("four bytes into room for four", x.feed(all[0], all[1], all[2], all[3], all[4]), 240);
+        }
     }
 
     private static void ends() {
