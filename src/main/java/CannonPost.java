@@ -24,7 +24,6 @@ public final class CannonPost {
     private static final int HAY_EVERY = 4;
     private static final int NEWS_KINDS = 6;
     private static final int ALL_NEWS = 63;
-    private static final int MOST_RELAYED = 3;
     private static final int ALL_PARTS = 1000000000;
     private static final int GUST = 3;
 
@@ -522,18 +521,11 @@ public final class CannonPost {
         if (!isNews(news) || !league.hasFort(fort) || what < 0 || what > 1) {
             return NONE;
         }
-        int knowing = now.fortsKnowing(news, league.fortCount);
-        if ((knowing >> fort & 1) != 0) {
-            return 0;
+        int best = paths.bestRelay(now, now.fortsKnowing(news, league.fortCount), fort);
+        if (best == NONE) {
+            return NONE;
         }
-        paths.placeCarriers(now);
-        for (int shots = 1; shots <= MOST_RELAYED; shots++) {
-            int first = paths.firstShot(now, shots, knowing, fort);
-            if (first != NONE) {
-                return what == 1 ? first : shots;
-            }
-        }
-        return NONE;
+        return what == 1 ? best % Paths.RELAY_SHOT : best / Paths.RELAY_SHOT;
     }
 
     public int sure(int carrier, int fort, int other) {
@@ -984,10 +976,19 @@ public final class CannonPost {
             return best;
         }
 
-        /** The FORT in which one who comes to the place LANDS; NONE for the LAKE. */
+        /** The FORT in which one who comes to the place LANDS; NONE for the LAKE. No two have one place. */
         int fortNear(int place) {
-            int fort = nearestFort(place);
-            return Math.abs(place(fort) - place) <= 1 ? fort : NONE;
+            int beside = NONE;
+            for (int f = fortCount - 1; f >= 0; f--) {
+                int off = place(f) - place;
+                if (off == 0) {
+                    return f;
+                }
+                if (off == 1 || off == -1) {
+                    beside = f;
+                }
+            }
+            return beside;
         }
     }
 
@@ -1411,7 +1412,10 @@ public final class CannonPost {
                 default:
                     break;
             }
-            return (int) Math.max(-FURTHEST, Math.min(FURTHEST, value));
+            if (value > FURTHEST) {
+                return FURTHEST;
+            }
+            return value < -FURTHEST ? -FURTHEST : (int) value;
         }
     }
 
@@ -1728,6 +1732,10 @@ public final class CannonPost {
 
     /** Which FORTS are come to from which, over others too. */
     private static final class Paths {
+        /** What the number of a RELAY's SHOTS is multiplied by, to leave room for the first of them. */
+        static final int RELAY_SHOT = 100;
+        private static final int MOST_RELAYED = 3;
+
         final int[] hops = new int[League.MOST_FORTS];
         final int[] costs = new int[League.MOST_FORTS];
         final int[] rows = new int[League.MOST_FORTS];
@@ -1768,16 +1776,28 @@ public final class CannonPost {
             }
         }
 
-        void placeCarriers(State s) {
+        /** The fewest SHOTS and the least first one that bring it to the goal; NONE without. */
+        int bestRelay(State s, int knowing, int goal) {
+            if ((knowing >> goal & 1) != 0) {
+                return 0;
+            }
             System.arraycopy(s.cells, State.AT, spots, 0, League.MOST_CARRIERS);
+            for (int shots = 1; shots <= MOST_RELAYED && knowing != 0; shots++) {
+                int first = firstShot(s, shots, knowing, goal);
+                if (first != NONE) {
+                    return shots * RELAY_SHOT + first;
+                }
+            }
+            return NONE;
         }
 
-        /** The least SHOT with which so many begin that bring it to the goal; NONE without. */
-        int firstShot(State s, int shots, int knowing, int goal) {
+        /** The least SHOT with which so many begin that bring it to the goal, as the last of them must. */
+        private int firstShot(State s, int shots, int knowing, int goal) {
+            int from = shots > 1 ? 0 : goal;
+            int behind = shots > 1 ? league.fortCount : goal + 1;
             for (int c = 0; c < league.carrierCount; c++) {
-                for (int f = 0; f < league.fortCount; f++) {
-                    boolean useful = shots > 1 || f == goal;
-                    if (useful && s.cells[State.LATE + c] == 0
+                for (int f = from; f < behind; f++) {
+                    if (s.cells[State.LATE + c] == 0
                             && flight.leastPowder(s, c, spots[c], f) != NONE
                             && leads(s, 10 * c + f, shots, knowing, goal)) {
                         return 10 * c + f;
