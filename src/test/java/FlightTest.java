@@ -140,28 +140,36 @@ final class FlightTest {
 
     /** Aims are kept as long as the weather is: it is changed to and fro, so that an old one would show. */
     private static void aimsInAllWeather() {
-        CannonPost x = Check.post("sw0;f;fx20;fx31;cm3;cm4");
-        Check.tell(x, Check.LAW, "y:p+w+9-d");
         long draws = 7;
-        for (int i = 0; i < 300; i++) {
-            draws = draws * 6364136223846793005L + 1442695040888963407L;
-            int draw = (int) (draws >>> 33);
-            switch (draw % 4) {
-                case 0:
-                    x.law(draw / 4 % 2 - 1);
-                    break;
-                case 1:
-                    x.damp(draw / 4 % 10);
-                    break;
-                case 2:
-                    x.wind(x.rule(0), 1 - x.rule(1));
-                    break;
-                default:
-                    x.wind(draw / 4 % 10, x.rule(1));
-                    break;
+        for (int i = 0; i < 30; i++) {
+            CannonPost x = Check.post("sw0;f;fx20;fx31;cm3;cm4");
+            Check.tell(x, Check.LAW, "y:p+w+9-d");
+            for (int k = 0; k < 9; k++) {
+                draws = draws * 6364136223846793005L + 1442695040888963407L;
+                changeWeather(x, (int) (draws >>> 33));
+                CHECK.due("aim(0, 0, 1), " + i + ", " + k, x.aim(0, 0, 1), leastByHand(x, 0, 0, 1));
+                CHECK.due("aim(1, 2, 1), " + i + ", " + k, x.aim(1, 2, 1), leastByHand(x, 1, 2, 1));
             }
-            CHECK.due("aim(0, 0, 1), " + i, x.aim(0, 0, 1), leastByHand(x, 0, 0, 1));
-            CHECK.due("aim(1, 2, 1), " + i, x.aim(1, 2, 1), leastByHand(x, 1, 2, 1));
+        }
+    }
+
+    private static void changeWeather(CannonPost x, int draw) {
+        switch (draw % 5) {
+            case 0:
+                x.law(draw / 5 % 2 - 1);
+                break;
+            case 1:
+                x.damp(draw / 5 % 10);
+                break;
+            case 2:
+                x.wind(x.rule(0), 1 - x.rule(1));
+                break;
+            case 3:
+                x.undo();
+                break;
+            default:
+                x.wind(draw / 5 % 10, x.rule(1));
+                break;
         }
     }
 
