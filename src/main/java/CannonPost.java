@@ -1035,17 +1035,22 @@ public final class CannonPost {
             return false;
         }
 
+        /** Blanks are passed before all else: a clause too many is wrong at its letter, not ahead of it. */
         private boolean readClause() {
-            if (!ruled && tape.take('s')) {
+            int sign = tape.next();
+            if (sign == 's' && !ruled) {
+                tape.at++;
                 ruled = true;
                 return readItems(draft.rules, 0, RULES, FORTS);
             }
-            if (draft.fortCount < League.MOST_FORTS && tape.take('f')) {
+            if (sign == 'f' && draft.fortCount < League.MOST_FORTS) {
+                tape.at++;
                 int start = draft.fortCount * League.FORT_ITEMS;
                 draft.fortCount++;
                 return readItems(draft.forts, start, FORTS, CARRIERS);
             }
-            if (draft.carrierCount < League.MOST_CARRIERS && tape.take('c')) {
+            if (sign == 'c' && draft.carrierCount < League.MOST_CARRIERS) {
+                tape.at++;
                 int start = draft.carrierCount * League.CARRIER_ITEMS;
                 draft.carrierCount++;
                 return readItems(draft.carriers, start, CARRIERS, BEHIND);

@@ -8,6 +8,7 @@ final class LeagueTextTest {
         wrongSigns();
         numbers();
         tooMany();
+        behindAFullOne();
         endsTooEarly();
         usualItems();
         toldItems();
@@ -86,6 +87,28 @@ final class LeagueTextTest {
         CHECK.dueFault(SORT, "sw1;f; s", 7);
         CHECK.dueFault(SORT, "f;f;f;f;f;f;f;f;f", 16);
         CHECK.dueFault(SORT, "c;c;c;c;c;c", 10);
+        CHECK.dueFault(SORT, "f;f;f;f;f;f;f;f;  f", 18);
+        CHECK.dueFault(SORT, "c;c;c;c;c;  c", 12);
+    }
+
+    /** Once s, eight f and five c are told, blanks behind a ; are still none of the FAULT. */
+    private static void behindAFullOne() {
+        String[] full = {
+            "s;fx0;fx1;fx2;fx3;fx4;fx5;fx6;fx7;c;c;c;c;c",
+            "c;c;c;c;c;fx0;fx1;fx2;fx3;fx4;fx5;fx6;fx7;sw9",
+            " c ;c;s;c;c;c ;fx9;fx1;fx2;fx3;fx4;fx5;fx6;fx7 y 1 "};
+        for (String league : full) {
+            CHECK.dueSound(SORT, league);
+            for (String blanks : new String[] {"", " ", "   "}) {
+                String open = league + ";" + blanks;
+                CHECK.dueFault(SORT, open, open.length());
+                for (char sign : "sfcxw;0~\t".toCharArray()) {
+                    CHECK.dueFault(SORT, open + sign, open.length());
+                    CHECK.dueFault(SORT, open + sign + " ", open.length());
+                }
+                CHECK.dueFault(SORT, league + blanks + "x1", league.length() + blanks.length());
+            }
+        }
     }
 
     private static void endsTooEarly() {

@@ -227,7 +227,11 @@ final class SecondReadingTest {
     private void tellWrong() throws ReflectiveOperationException {
         int sort = random.nextInt(3);
         StringBuilder text = new StringBuilder(sort == 0 ? league() : sort == 1 ? law() : plan());
-        for (int i = random.nextInt(4); i > 0; i--) {
+        boolean longer = random.nextInt(4) == 0;
+        if (longer) {
+            goOn(text, sort);
+        }
+        for (int i = random.nextInt(longer ? 2 : 4); i > 0; i--) {
             int at = random.nextInt(text.length() + 1);
             char sign = random.nextInt(20) == 0 ? (char) (1 + random.nextInt(255))
                     : SIGNS[sort].charAt(random.nextInt(SIGNS[sort].length()));
@@ -246,6 +250,16 @@ final class SecondReadingTest {
         if (random.nextInt(3) == 0) {
             call("text", random.nextInt(9) > 0 ? sort : random.nextInt(5) - 1);
         }
+    }
+
+    /** One part more behind the last one, as it may be just the one too many, and blanks about it. */
+    private void goOn(StringBuilder text, int sort) {
+        String[][] parts = {{"s", "f", "c"}, {"y:p", "y:!p=1?1"}, {"h1", "w11"}};
+        text.append("  ", 0, random.nextInt(3)).append(';').append("  ", 0, random.nextInt(3));
+        if (random.nextInt(4) > 0) {
+            text.append(parts[sort][random.nextInt(parts[sort].length)]);
+        }
+        text.append("  ", 0, random.nextInt(3));
     }
 
     private void feed(String text) throws ReflectiveOperationException {
@@ -278,15 +292,16 @@ final class SecondReadingTest {
             places.add(i);
         }
         java.util.Collections.shuffle(places, random);
-        int forts = 2 + random.nextInt(7);
+        boolean full = random.nextInt(5) == 0;
+        int forts = full ? 8 : 2 + random.nextInt(7);
         List<String> clauses = new ArrayList<>();
         for (int i = 0; i < forts; i++) {
             clauses.add("fx" + places.get(i) + item('h', 0, 9) + item('y', 0, 9));
         }
-        for (int i = random.nextInt(5); i >= 0; i--) {
+        for (int i = full ? 4 : random.nextInt(5); i >= 0; i--) {
             clauses.add("c" + item('f', 0, forts - 1) + item('m', 1, 9) + item('n', 0, 9));
         }
-        if (random.nextInt(4) > 0) {
+        if (full || random.nextInt(4) > 0) {
             clauses.add("s" + item('w', 0, 9) + item('d', 0, 1) + item('p', 20, 99) + item('b', 1, 6));
         }
         java.util.Collections.shuffle(clauses, random);
