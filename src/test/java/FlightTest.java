@@ -11,6 +11,7 @@ final class FlightTest {
         aimsNotRising();
         aimsFollowWeather();
         aimsInAllWeather();
+        aimsBesideEachWeather();
         gusts();
         gustBeyondNine();
         passes();
@@ -151,6 +152,34 @@ final class FlightTest {
                 CHECK.due("aim(1, 2, 1), " + i + ", " + k, x.aim(1, 2, 1), leastByHand(x, 1, 2, 1));
             }
         }
+    }
+
+    /** From each LAW and weather to those beside it and back: none may be taken for another. */
+    private static void aimsBesideEachWeather() {
+        for (int i = 0; i < 2000; i++) {
+            int[] here = {i / 400 - 1, i / 40 % 10, i / 20 % 2, i / 2 % 10};
+            CannonPost x = Check.post("sw0;f;fx20;cm6");
+            for (int law = 0; law < 4; law++) {
+                Check.tell(x, Check.LAW, "y:p+w-d+" + (law + 1));
+            }
+            dueAim(x, here);
+            for (int k = 0; k < 45; k++) {
+                int[] there = {here[0] + k % 3 - 1, here[1] + k / 3 % 3 - 1, (here[2] + i) % 2, here[3] + new int[] {-9, -1, 0, 1, 9}[k / 9]};
+                if (there[0] >= -1 && there[0] <= 3 && there[1] >= 0 && there[1] <= 9 && there[3] >= 0 && there[3] <= 9) {
+                    dueAim(x, there);
+                    dueAim(x, here);
+                }
+            }
+        }
+    }
+
+    /** One of WEIGHT 6 without a LAW, and by the LAWS above one more each, flies as far as its POWDER and the wind. */
+    private static void dueAim(CannonPost x, int[] weather) {
+        x.law(weather[0]);
+        x.wind(weather[1], weather[2]);
+        x.damp(weather[3]);
+        int least = 19 - (weather[2] == 0 ? weather[1] : -weather[1]) + weather[3] - weather[0] - 1;
+        CHECK.due("aim in weather " + java.util.Arrays.toString(weather), x.aim(0, 0, 1), least > 20 ? -1 : least);
     }
 
     private static void changeWeather(CannonPost x, int draw) {

@@ -66,6 +66,11 @@ final class SecondReadingTest {
         if (!texts && run % 8 != 1) {
             tellAll();
         }
+        if (run % 8 == 2) {
+            nearTheLastHour();
+        } else if (run % 8 == 3) {
+            fillTheLog();
+        }
         while (calls < CALLS) {
             double kind = random.nextDouble();
             if (kind < (texts ? 0.9 : 0.03)) {
@@ -87,6 +92,24 @@ final class SecondReadingTest {
             tell(2, plan());
         }
         tell(0, league());
+    }
+
+    /** Few drawn runs would come to 9,999, the bound of HOURS. */
+    private void nearTheLastHour() throws ReflectiveOperationException {
+        for (int i = 0; i < 166; i++) {
+            call("hours", 60);
+        }
+        call("hours", 1 + random.nextInt(38));
+    }
+
+    /** Few would be SHOT sixty times, as POWDER ends: they are SHOT by a PLAN, and POWDER is brought. */
+    private void fillTheLog() throws ReflectiveOperationException {
+        tell(2, "s0001;s0002;s1001;h1;s0003;s1102;s2001;s0104;s1001");
+        for (int i = random.nextInt(40); i >= 0; i--) {
+            call("perform", 0);
+            call("perform", reading.count(3) - 1);
+            call("grind", 1 + random.nextInt(30));
+        }
     }
 
     // ---- one call on both
