@@ -61,6 +61,28 @@ final class Bounds {
         check.dueFault(sort, text, want);
     }
 
+    /** The text has no FAULT, and is taken as the first of its sort. */
+    void sound(int sort, String text) {
+        check.dueFault(sort, text, Check.NONE);
+        CannonPost x = new CannonPost();
+        check.holds("text(" + sort + ") of '" + text + "'", Check.tell(x, sort, text) != Check.NONE);
+        check.due("its tape is empty then", x.count(4), 0);
+    }
+
+    /** The text has its FAULT there, is not taken, and stays on the tape; a LEAGUE that is there stays. */
+    void wrong(int sort, String text, int at) {
+        check.dueFault(sort, text, at);
+        CannonPost x = Check.post("f;fx7;fx9;c");
+        x.hours(2);
+        Check.feedText(x, text);
+        check.due("text(" + sort + ") of '" + text + "'", x.text(sort), Check.NONE);
+        check.due("its tape stays", x.count(4), text.length());
+        check.due("no law of it", x.count(2), 0);
+        check.due("no plan of it", x.count(3), 0);
+        check.due("the league stays", x.count(0), 3);
+        check.due("and its hour", x.count(6), 2);
+    }
+
     void close() {
         check.close();
     }

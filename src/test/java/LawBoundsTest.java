@@ -40,16 +40,11 @@ final class LawBoundsTest {
     }
 
     private static void sound(String text) {
-        LOOK.dueFault(SORT, text, Check.NONE);
-        LOOK.due("text(1) of '" + text + "'", Check.tell(new CannonPost(), SORT, text), 0);
+        LOOK.sound(SORT, text);
     }
 
     private static void wrong(String text, int at) {
-        LOOK.dueFault(SORT, text, at);
-        CannonPost x = new CannonPost();
-        LOOK.due("text(1) of '" + text + "'", Check.tell(x, SORT, text), Check.NONE);
-        LOOK.due("no law of it", x.count(2), 0);
-        LOOK.due("its tape stays", x.count(4), text.length());
+        LOOK.wrong(SORT, text, at);
     }
 
     private static void tellFour(CannonPost x) {
@@ -208,11 +203,7 @@ final class LawBoundsTest {
 
     private static void wrongTextChangesNothing() {
         for (String text : new String[] {"", "y", "y:", "y:p=1", "y:[[[[[[[1", "y:12345", "y:1;", "q"}) {
-            Bounds.Past fed = x -> {
-                Pasts.busy(x);
-                x.end(0);
-                Check.feedText(x, text);
-            };
+            Bounds.Past fed = Pasts.busyWith(text);
             LOOK.refused("text(1) of '" + text + "'", fed, x -> x.text(SORT), Check.NONE);
         }
     }

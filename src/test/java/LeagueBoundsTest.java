@@ -37,23 +37,11 @@ final class LeagueBoundsTest {
     }
 
     private static void sound(String text) {
-        LOOK.dueFault(SORT, text, Check.NONE);
+        LOOK.sound(SORT, text);
     }
 
     private static void wrong(String text, int at) {
-        LOOK.dueFault(SORT, text, at);
-        refusedText(text);
-    }
-
-    /** A wrong LEAGUE leaves the one that was there, and the tape. */
-    private static void refusedText(String text) {
-        CannonPost x = Check.post("f;fx7;fx9;c");
-        x.hours(2);
-        Check.feedText(x, text);
-        LOOK.due("text(0) of '" + text + "'", x.text(SORT), Check.NONE);
-        LOOK.due("its tape stays", x.count(4), text.length());
-        LOOK.due("the other one stays", x.count(0), 3);
-        LOOK.due("and its hour", x.count(6), 2);
+        LOOK.wrong(SORT, text, at);
     }
 
     /** "s (its RULES; one at most)" */
@@ -189,7 +177,7 @@ final class LeagueBoundsTest {
                 }
             }
         }
-        refusedText(head + (most + 1));
+        wrong(head + (most + 1), head.length() + (most < 9 ? 0 : most < 99 ? 1 : 2));
     }
 
     /** Eight FORTS in all, so that a CARRIER may be in any, none where the first could be told to be. */
@@ -372,11 +360,7 @@ final class LeagueBoundsTest {
     private static void wrongTextChangesNothing() {
         String[] texts = {"", "f;fx1", "f;f;c", "f;fx1;cf2", "sw10", "f;fx1;c;", "f;fx1;c~", "fx3h1y9;fx4;cm9n9f1;q"};
         for (String text : texts) {
-            Bounds.Past fed = x -> {
-                Pasts.busy(x);
-                x.end(0);
-                Check.feedText(x, text);
-            };
+            Bounds.Past fed = Pasts.busyWith(text);
             LOOK.refused("text(0) of '" + text + "'", fed, x -> x.text(SORT), Check.NONE);
             LOOK.unchanged("fault(0) of '" + text + "'", fed, x -> x.fault(SORT));
         }

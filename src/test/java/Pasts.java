@@ -46,6 +46,15 @@ final class Pasts {
         Check.feedText(x, "h7;w31");
     }
 
+    /** The busy one with another text on its tape. */
+    static Bounds.Past busyWith(String text) {
+        return x -> {
+            busy(x);
+            x.end(0);
+            Check.feedText(x, text);
+        };
+    }
+
     static void tellTexts(CannonPost x) {
         Check.tell(x, Check.LAW, "y:p+h+w-d");
         Check.tell(x, Check.LAW, "y:60-m");

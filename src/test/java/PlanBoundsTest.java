@@ -39,16 +39,11 @@ final class PlanBoundsTest {
     }
 
     private static void sound(String text) {
-        LOOK.dueFault(SORT, text, Check.NONE);
-        LOOK.due("text(2) of '" + text + "'", Check.tell(new CannonPost(), SORT, text), 0);
+        LOOK.sound(SORT, text);
     }
 
     private static void wrong(String text, int at) {
-        LOOK.dueFault(SORT, text, at);
-        CannonPost x = new CannonPost();
-        LOOK.due("text(2) of '" + text + "'", Check.tell(x, SORT, text), Check.NONE);
-        LOOK.due("no plan of it", x.count(3), 0);
-        LOOK.due("its tape stays", x.count(4), text.length());
+        LOOK.wrong(SORT, text, at);
     }
 
     /** The last of them has sixteen STEPS, and a fifth is on the tape. */
@@ -224,11 +219,7 @@ final class PlanBoundsTest {
 
     private static void wrongTextChangesNothing() {
         for (String text : new String[] {"", "h", "h1;", "s02", "w12", "n1", "h12", "h1;h2;h3;q"}) {
-            Bounds.Past fed = x -> {
-                Pasts.busy(x);
-                x.end(0);
-                Check.feedText(x, text);
-            };
+            Bounds.Past fed = Pasts.busyWith(text);
             LOOK.refused("text(2) of '" + text + "'", fed, x -> x.text(SORT), Check.NONE);
             LOOK.unchanged("fault(2) of '" + text + "'", fed, x -> x.fault(SORT));
         }
