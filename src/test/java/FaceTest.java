@@ -5,10 +5,12 @@ import java.lang.reflect.Modifier;
 import java.util.ArrayList;
 import java.util.Collections;
 import java.util.List;
+import java.util.NoSuchElementException;
 
 /** The public face is that of the document, and nothing else of the class can be seen from outside. */
 final class FaceTest {
     private static final Check CHECK = new Check();
+    private static final int CONSTANT = Modifier.PUBLIC | Modifier.STATIC | Modifier.FINAL;
     private static final String[] FACE = {
         "int aim(int,int,int)", "int ask(int,int)", "int back()", "int best(int,int)", "int carrier(int,int)",
         "int count(int)", "int cuts()", "boolean damp(int)", "boolean damps(int)", "int decades(int,long)",
@@ -33,6 +35,9 @@ final class FaceTest {
             CHECK.holds(method.getName() + " is public", Modifier.isPublic(method.getModifiers()));
             CHECK.fails(method.getName() + " is static", Modifier.isStatic(method.getModifiers()));
             seen.add(told(method));
+            boolean declares = List.of(method.getExceptionTypes()).equals(List.of(NoSuchElementException.class));
+            CHECK.due(method.getName() + " declares what it throws", declares ? 1 : method.getExceptionTypes().length,
+                    method.getName().equals("carrier") ? 1 : 0);
             names.add(method.getName());
         }
         List<String> want = new ArrayList<>(List.of(FACE));
@@ -59,7 +64,9 @@ final class FaceTest {
     private static void membersElsewhere(List<String> names) {
         for (Field field : CannonPost.class.getDeclaredFields()) {
             boolean constant = field.getName().equals("NONE") || field.getName().equals("HIDDEN");
-            CHECK.holds("field " + field.getName(), constant || Modifier.isPrivate(field.getModifiers()));
+            CHECK.holds("field " + field.getName(), constant
+                    ? field.getModifiers() == CONSTANT && field.getType() == int.class
+                    : Modifier.isPrivate(field.getModifiers()));
         }
         for (Constructor<?> maker : CannonPost.class.getDeclaredConstructors()) {
             CHECK.holds("the constructor is public", Modifier.isPublic(maker.getModifiers()));
