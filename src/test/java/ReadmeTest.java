@@ -81,6 +81,7 @@ public final class ReadmeTest {
     private static String looked(String line) {
         Matcher shown = SHOWN.matcher(line);
         if (!shown.matches()) {
+            CHECK.holds("README.md tells the answer of: " + line, line.equals("CannonPost post = new CannonPost();"));
             return line;
         }
         String call = shown.group(1);
